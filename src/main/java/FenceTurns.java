@@ -173,7 +173,7 @@ public final class FenceTurns {
         if (refusal != FINE) {
             return refusal;
         }
-        return what == 0 ? ground.lesser[fence] : ground.other[fence];
+        return what == 0 ? ground.lesser[fence] : ground.greater[fence];
     }
 
     public int kind(int fence) {
@@ -515,7 +515,7 @@ public final class FenceTurns {
         if (after == NONE || asked.rankOf[after] == NONE) {
             return NONE;
         }
-        return ground.comingFor(fence, fencesNow());
+        return ground.fenceAcross(fence, fencesNow());
     }
 
     private void moveTo(int cutting) {
@@ -634,7 +634,7 @@ public final class FenceTurns {
     private static final class Ground {
         final Posts posts = new Posts();
         final int[] lesser = new int[MOST_FENCES];
-        final int[] other = new int[MOST_FENCES];
+        final int[] greater = new int[MOST_FENCES];
         final int[] crossing = new int[MOST_FENCES];
         int fences;
         int hems;
@@ -677,7 +677,7 @@ public final class FenceTurns {
         int thirdsOf(int cutting) {
             int many = 0;
             for (int f = 0; f < fences; f++) {
-                for (int c = other[f] + 1; c < posts.many; c++) {
+                for (int c = greater[f] + 1; c < posts.many; c++) {
                     if (isThird(f, c, cutting)) {
                         many++;
                     }
@@ -690,12 +690,12 @@ public final class FenceTurns {
         int cornerOf(int cutting, int i, int what) {
             int ahead = 0;
             for (int f = 0; f < fences; f++) {
-                for (int c = other[f] + 1; c < posts.many; c++) {
+                for (int c = greater[f] + 1; c < posts.many; c++) {
                     if (!isThird(f, c, cutting)) {
                         continue;
                     }
                     if (ahead == i) {
-                        return what == 0 ? lesser[f] : what == 1 ? other[f] : c;
+                        return what == 0 ? lesser[f] : what == 1 ? greater[f] : c;
                     }
                     ahead++;
                 }
@@ -713,8 +713,8 @@ public final class FenceTurns {
             return false;
         }
 
-        /** The fence that comes for f by a turn, held and barred ones not minded, or NONE. */
-        int comingFor(int f, int cutting) {
+        /** The fence that a turn of f brings, whatever is held or barred, or NONE. */
+        int fenceAcross(int f, int cutting) {
             int c = NONE;
             int d = NONE;
             for (int p = 0; p < posts.many; p++) {
@@ -727,7 +727,7 @@ public final class FenceTurns {
                 return NONE;
             }
             int a = lesser[f];
-            int b = other[f];
+            int b = greater[f];
             boolean isFree = posts.areParted(c, d, a, b) && posts.areParted(a, b, c, d);
             return isFree ? fenceBetween(c, d) : NONE;
         }
@@ -751,7 +751,7 @@ public final class FenceTurns {
 
         private int addFence(int a, int b) {
             lesser[fences] = a;
-            other[fences] = b;
+            greater[fences] = b;
             fences++;
             return fences - 1;
         }
@@ -778,8 +778,8 @@ public final class FenceTurns {
 
         /** No post is between a fence's ends, so that two fences never touch but at their posts. */
         private boolean doCross(int f, int g) {
-            return posts.areParted(lesser[f], other[f], lesser[g], other[g])
-                    && posts.areParted(lesser[g], other[g], lesser[f], other[f]);
+            return posts.areParted(lesser[f], greater[f], lesser[g], greater[g])
+                    && posts.areParted(lesser[g], greater[g], lesser[f], greater[f]);
         }
 
         private void findHems() {
@@ -795,7 +795,7 @@ public final class FenceTurns {
             boolean left = false;
             boolean right = false;
             for (int p = 0; p < posts.many; p++) {
-                int side = posts.side(lesser[f], other[f], p);
+                int side = posts.side(lesser[f], greater[f], p);
                 left = left || side > 0;
                 right = right || side < 0;
             }
@@ -812,7 +812,7 @@ public final class FenceTurns {
 
         private int sidesOf(int f, int c) {
             int a = lesser[f];
-            int b = other[f];
+            int b = greater[f];
             int toA = fenceBetween(a, c);
             int toB = fenceBetween(b, c);
             if (toA == NONE || toB == NONE || posts.side(a, b, c) == 0) {
@@ -893,7 +893,7 @@ public final class FenceTurns {
         }
 
         private int findAfter(Ground ground, int i, int f) {
-            int coming = isIn(f, all[i]) ? ground.comingFor(f, all[i]) : NONE;
+            int coming = isIn(f, all[i]) ? ground.fenceAcross(f, all[i]) : NONE;
             return coming == NONE ? NONE : indexOf(all[i] & ~(1 << f) | 1 << coming);
         }
 
