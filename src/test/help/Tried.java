@@ -4,6 +4,7 @@ import java.lang.reflect.Modifier;
 import java.util.HashMap;
 import java.util.Map;
 import java.util.StringJoiner;
+import java.util.stream.LongStream;
 
 /**
  * An object under test. Its calls are named by words, so that a wrong answer can be told just as
@@ -37,6 +38,15 @@ final class Tried {
     static final int[] LINE = {0, 0, 30, 0, 60, 0};
     /** Convex: all 28 fences; 132 cuttings. */
     static final int[] OCTAGON = {1, 0, 2, 0, 3, 1, 3, 2, 2, 3, 1, 3, 0, 2, 0, 1};
+    /**
+     * Each of posts 2 and 3 is off the line of 0 and 1 by a hair, on unlike sides of it, and so are
+     * 0 and 1 of theirs; fences as in SQUARE; cuttings 31 (with 01), 62 (with 23): FENCE 0 is to turn.
+     */
+    static final int[] HAIR = {0, 0, 60, 59, 59, 58, 1, 1};
+    /** Post 3 is within the other three by a hair; fences as in SQUARE; one cutting. */
+    static final int[] HAIR_WITHIN = {0, 0, 60, 59, 0, 60, 1, 1};
+    /** 0:01 1:03 2:12 3:13 4:23, for no fence is between 0 and 2; one cutting. */
+    static final int[] ROW_AND_TOP = {0, 0, 30, 0, 60, 0, 30, 30};
     /** The most cuttings that eight posts have: 150; all 28 fences, hems by three posts. */
     static final int[] MOST = {14, 0, 22, 60, 24, 53, 55, 33, 27, 34, 41, 38, 26, 22, 36, 36};
 
@@ -45,6 +55,12 @@ final class Tried {
 
     private final FenceTurns object = new FenceTurns();
     private int calls;
+
+    /** Numbers that are none of 0 .. many - 1: just off, far off, and like those in their lowest bits. */
+    static long[] noneOf(int many) {
+        return LongStream.of(-1, many, many + 1, 8, 27, 28, 32, 33, 59, 64, 256, 300, MIN, MIN + 1, MAX, -32, -256, -many)
+                .filter(i -> i < 0 || i >= many).toArray();
+    }
 
     static Tried made() {
         return new Tried();

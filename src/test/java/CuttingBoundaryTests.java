@@ -5,20 +5,11 @@ import java.util.Deque;
 public final class CuttingBoundaryTests {
     private static final int MIN = Tried.MIN;
     private static final int MAX = Tried.MAX;
-    /** Convex by a hair: 01 and 23 cross; cuttings 31 (with 01), 62 (with 23). */
-    private static final int[] HAIR = {0, 0, 60, 59, 59, 58, 1, 1};
-    /** Post 3 is within the other three by a hair: one cutting. */
-    private static final int[] HAIR_WITHIN = {0, 0, 60, 59, 0, 60, 1, 1};
     /** Post 4 is on the lines of 0 and 2, and of 1 and 3: one cutting of 8 fences. */
     private static final int[] MIDDLE_LAST = {0, 0, 8, 0, 8, 8, 0, 8, 4, 4};
     private static final int[] MIDDLE_FIRST = {4, 4, 0, 0, 8, 0, 8, 8, 0, 8};
-    private static final int[] ROW_AND_TOP = {0, 0, 30, 0, 60, 0, 30, 30};
     private static final int[] TOP_OF_MIDDLE = {30, 0, 0, 0, 60, 0, 30, 30};
     private static final int[] EIGHT_IN_LINE = {0, 0, 1, 1, 2, 2, 3, 3, 4, 4, 5, 5, 6, 6, 60, 60};
-
-    private static long[] noneOf(int many) {
-        return new long[] {-1, many, many + 1, 32, 33, 64, 256, MIN, MIN + 1, MAX, -32};
-    }
 
     private static void cutting() {
         Sentences.sentence("Promise 17", "THE CUTTING. STATE (as longs).");
@@ -26,7 +17,7 @@ public final class CuttingBoundaryTests {
         Tried.collected(Tried.SQUARE).due(-3, "cutting").with("lay").due(47, "cutting");
         Tried.laid(Tried.LINE).due(3, "cutting");
         Tried.laid(Tried.TRIANGLE).due(7, "cutting");
-        Tried.laid(HAIR).due(31, "cutting").with("go", 1).due(62, "cutting");
+        Tried.laid(Tried.HAIR).due(31, "cutting").with("go", 1).due(62, "cutting");
         Tried.laid(EIGHT_IN_LINE).due(127, "cutting");
         Sentences.sentence("Terms 2", "THE CUTTING is one that is ASKED.");
         Tried x = Tried.laid(Tried.PENTAGON).with("go", 3);
@@ -37,11 +28,12 @@ public final class CuttingBoundaryTests {
         Sentences.sentence("Promise 18", "Whether THE CUTTING has a FENCE: 1, 0. STATE; UNKNOWN.");
         Tried.made().due(-3, "has", 0).due(-3, "has", -1).due(-3, "has", 99);
         x = Tried.laid(Tried.OCTAGON).due(1, "has", 0).due(1, "has", 27).due(0, "has", 26);
-        for (long no : noneOf(28)) {
+        for (long no : Tried.noneOf(28)) {
             x.due(-1, "has", no);
         }
-        x = Tried.laid(Tried.SQUARE).due(1, "has", 1).due(0, "has", 4).with("turn", 1).due(0, "has", 1).due(1, "has", 4);
-        for (long no : noneOf(6)) {
+        x = Tried.laid(Tried.SQUARE).due(1, "has", 1).due(0, "has", 4).with("turn", 1).due(0, "has", 1)
+                .due(1, "has", 4);
+        for (long no : Tried.noneOf(6)) {
             x.due(-1, "has", no);
         }
     }
@@ -53,10 +45,10 @@ public final class CuttingBoundaryTests {
         thirds(EIGHT_IN_LINE);
         thirds(Tried.TRIANGLE, 0, 1, 2);
         thirds(Tried.SQUARE, 0, 1, 2, 0, 2, 3);
-        thirds(ROW_AND_TOP, 0, 1, 3, 1, 2, 3);
+        thirds(Tried.ROW_AND_TOP, 0, 1, 3, 1, 2, 3);
         thirds(Tried.KITE, 0, 1, 4, 0, 3, 4, 1, 2, 3, 1, 3, 4);
-        thirds(HAIR, 0, 1, 2, 0, 1, 3);
-        thirds(HAIR_WITHIN, 0, 1, 3, 0, 2, 3, 1, 2, 3);
+        thirds(Tried.HAIR, 0, 1, 2, 0, 1, 3);
+        thirds(Tried.HAIR_WITHIN, 0, 1, 3, 0, 2, 3, 1, 2, 3);
         thirds(new int[] {1, 1, 0, 60, 60, 59, 0, 0}, 0, 1, 2, 0, 1, 3, 0, 2, 3);
         thirds(MIDDLE_LAST, 0, 1, 4, 0, 3, 4, 1, 2, 4, 2, 3, 4);
         thirds(new int[] {0, 0, 60, 1, 59, 1}, 0, 1, 2);
@@ -121,11 +113,11 @@ public final class CuttingBoundaryTests {
         Tried.laid(Tried.SQUARE).due(3, "degree", 0).due(2, "degree", 1).due(3, "degree", 2).due(2, "degree", 3)
                 .with("turn", 1).due(2, "degree", 0).due(3, "degree", 1).due(2, "degree", 2).due(3, "degree", 3);
         Tried x = Tried.laid(Tried.OCTAGON).due(7, "degree", 0).due(2, "degree", 1).due(2, "degree", 7);
-        for (long no : noneOf(8)) {
+        for (long no : Tried.noneOf(8)) {
             x.due(-1, "degree", no);
         }
         x = Tried.laid(Tried.SQUARE).with("post", 9, 9).due(-1, "degree", 4).with("clear").due(3, "degree", 0);
-        for (long no : noneOf(4)) {
+        for (long no : Tried.noneOf(4)) {
             x.due(-1, "degree", no);
         }
     }
@@ -138,12 +130,12 @@ public final class CuttingBoundaryTests {
         turns(Tried.laid(Tried.SQUARE).with("go", 1), -9, -9, -9, -9, 1, -9);
         turns(Tried.laid(Tried.PENTAGON), -9, 5, 8, -9, -9, -9, -9, -9, -9, -9);
         Sentences.sentence("Terms 2", "a and b are on unlike sides of the line of c and d (on neither on it)");
-        turns(Tried.laid(HAIR), 5, -9, -9, -9, -9, -9);
-        turns(Tried.laid(HAIR).with("turn", 0), -9, -9, -9, -9, -9, 0);
-        turns(Tried.laid(HAIR_WITHIN), -9, -9, -9, -9, -9, -9);
+        turns(Tried.laid(Tried.HAIR), 5, -9, -9, -9, -9, -9);
+        turns(Tried.laid(Tried.HAIR).with("turn", 0), -9, -9, -9, -9, -9, 0);
+        turns(Tried.laid(Tried.HAIR_WITHIN), -9, -9, -9, -9, -9, -9);
         turns(Tried.laid(MIDDLE_LAST), -9, -9, -9, -9, -9, -9, -9, -9);
         turns(Tried.laid(MIDDLE_FIRST), -9, -9, -9, -9, -9, -9, -9, -9);
-        turns(Tried.laid(ROW_AND_TOP), -9, -9, -9, -9, -9);
+        turns(Tried.laid(Tried.ROW_AND_TOP), -9, -9, -9, -9, -9);
         turns(Tried.laid(TOP_OF_MIDDLE), -9, -9, -9, -9, -9);
         turns(Tried.laid(Tried.KITE).with("go", 2), -9, -9, -9, -9, -9, -9, 1, -9, 5, -9);
         Sentences.sentence("Terms 2", "and it is not HELD, nor the FENCE c, d BARRED: that comes in its place.");
@@ -186,17 +178,17 @@ public final class CuttingBoundaryTests {
         Sentences.sentence("Promise 22", "STATE; UNKNOWN.");
         Tried.made().due(-3, "turns", 0).due(-3, "turns", -1).due(-3, "turns", 99);
         x = Tried.laid(Tried.OCTAGON);
-        for (long no : noneOf(28)) {
+        for (long no : Tried.noneOf(28)) {
             x.due(-1, "turns", no);
         }
         Sentences.sentence("Promise 23", "A FENCE is TURNED: the one that came.");
         x = Tried.laid(Tried.SQUARE).due(4, "turn", 1).due(61, "cutting").due(1, "total", 6).due(1, "turn", 4);
         x.due(47, "cutting").due(2, "total", 6);
-        Tried.laid(HAIR).due(5, "turn", 0).due(62, "cutting").due(0, "turn", 5).due(31, "cutting");
+        Tried.laid(Tried.HAIR).due(5, "turn", 0).due(62, "cutting").due(0, "turn", 5).due(31, "cutting");
         Sentences.sentence("Promise 23", "STATE: also, if it is not FREE; UNKNOWN ahead of that.");
         Tried.made().due(-3, "turn", 0).due(-3, "turn", -1).due(-3, "turn", 99);
         x = Tried.laid(Tried.SQUARE).due(-3, "turn", 0).due(-3, "turn", 4).due(-3, "turn", 5).due(47, "cutting");
-        for (long no : noneOf(6)) {
+        for (long no : Tried.noneOf(6)) {
             x.due(-1, "turn", no);
         }
         x.due(0, "total", 6).due(0, "total", 7).due(4, "turn", 1).due(-3, "turn", 1).due(1, "total", 6);

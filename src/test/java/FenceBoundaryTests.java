@@ -2,20 +2,6 @@
 public final class FenceBoundaryTests {
     private static final int MIN = Tried.MIN;
     private static final int MAX = Tried.MAX;
-    /**
-     * Each of posts 2 and 3 is off the line of 0 and 1 by a hair, on unlike sides of it, and so are
-     * 0 and 1 of theirs: all six fences, as numbered in SQUARE, of which 01 and 23 cross.
-     */
-    private static final int[] HAIR = {0, 0, 60, 59, 59, 58, 1, 1};
-    /** Post 3 is within the other three by a hair: one cutting. */
-    private static final int[] HAIR_WITHIN = {0, 0, 60, 59, 0, 60, 1, 1};
-    /** 0:01 1:03 2:12 3:13 4:23; one cutting, for no fence is between 0 and 2. */
-    private static final int[] ROW_AND_TOP = {0, 0, 30, 0, 60, 0, 30, 30};
-
-    /** Numbers that are none of 0 .. many - 1: just off, far off, and alike in their lowest bits. */
-    private static long[] noneOf(int many) {
-        return new long[] {-1, many, many + 1, 32, 33, 64, 256, MIN, MIN + 1, MAX, -32};
-    }
 
     private static void fences(int[] places, int... ends) {
         Tried x = Tried.laid(places);
@@ -38,7 +24,7 @@ public final class FenceBoundaryTests {
         Sentences.sentence("Terms 1", "FENCES are pairs a, b of POSTS (a below b) without a POST between them on the"
                 + " straight line, numbered 0, 1, .. by a, then by b.");
         fences(Tried.LINE, 0, 1, 1, 2);
-        fences(ROW_AND_TOP, 0, 1, 0, 3, 1, 2, 1, 3, 2, 3);
+        fences(Tried.ROW_AND_TOP, 0, 1, 0, 3, 1, 2, 1, 3, 2, 3);
         fences(new int[] {5, 0, 5, 9, 5, 60, 6, 7}, 0, 1, 0, 3, 1, 2, 1, 3, 2, 3);
         fences(new int[] {0, 0, 2, 1, 4, 2, 0, 9}, 0, 1, 0, 3, 1, 2, 1, 3, 2, 3);
         fences(new int[] {0, 60, 1, 59, 60, 0, 60, 60}, 0, 1, 0, 3, 1, 2, 1, 3, 2, 3);
@@ -47,8 +33,8 @@ public final class FenceBoundaryTests {
         fences(new int[] {0, 0, 60, 0, 20, 0, 40, 0, 0, 9}, 0, 2, 0, 4, 1, 3, 1, 4, 2, 3, 2, 4, 3, 4);
         fences(new int[] {0, 0, 1, 1, 2, 2}, 0, 1, 1, 2);
         fences(new int[] {4, 4, 6, 6, 2, 2}, 0, 1, 0, 2);
-        fences(HAIR, 0, 1, 0, 2, 0, 3, 1, 2, 1, 3, 2, 3);
-        fences(HAIR_WITHIN, 0, 1, 0, 2, 0, 3, 1, 2, 1, 3, 2, 3);
+        fences(Tried.HAIR, 0, 1, 0, 2, 0, 3, 1, 2, 1, 3, 2, 3);
+        fences(Tried.HAIR_WITHIN, 0, 1, 0, 2, 0, 3, 1, 2, 1, 3, 2, 3);
         fences(new int[] {0, 0, 60, 1, 59, 1}, 0, 1, 0, 2, 1, 2);
         fences(new int[] {7, 3, 1, 3, 8, 3, 2, 3, 3, 3, 6, 3, 4, 3, 5, 3}, 0, 2, 0, 5, 1, 3, 3, 4, 4, 6, 5, 7, 6, 7);
         int[] all = new int[56];
@@ -75,12 +61,27 @@ public final class FenceBoundaryTests {
         Tried.collected(Tried.SQUARE).due(-3, "fence", 0, 1).due(-3, "fence", 4, 0);
         for (int many = 3; many <= 8; many++) {
             x = Tried.laid(java.util.Arrays.copyOf(Tried.OCTAGON, 2 * many)).due(0, "fence", 0, 1);
-            for (long no : noneOf(many)) {
+            for (long no : Tried.noneOf(many)) {
                 x.due(-1, "fence", no, 0).due(-1, "fence", 0, no).due(-1, "fence", no, no);
                 x.due(-1, "fence", many - 1, no);
             }
         }
         Sentences.sentence("Terms 3", "UNKNOWN -1 (there is no such POST, FENCE of THE GROUND, RANK)");
+        int[][] grounds = {Tried.LINE, Tried.TRIANGLE, Tried.SQUARE, Tried.PENTAGON, Tried.HEXAGON, Tried.OCTAGON};
+        int[] fences = {2, 3, 6, 10, 15, 28};
+        for (int i = 0; i < grounds.length; i++) {
+            x = Tried.laid(grounds[i]).due(fences[i], "total", 2);
+            int last = fences[i] - 1;
+            x.due(0, "crosses", 0, last).due(0, "crosses", last, 0).due(1, "has", last).due(2, "sure", last);
+            for (long no : Tried.noneOf(fences[i])) {
+                x.due(-1, "end", no, 0).due(-1, "end", no, 1).due(-1, "kind", no).due(-1, "weightAs", no, 0);
+                x.due(-1, "weightAs", no, 1).due(-1, "crosses", no, 0).due(-1, "crosses", 0, no);
+                x.due(-1, "crosses", last, no).due(-1, "crosses", no, no).due(-1, "tell", no, 0);
+                x.due(-1, "tell", no, 1).due(-1, "tell", no, 2).due(-1, "weigh", no, 1).due(-1, "has", no);
+                x.due(-1, "turns", no).due(-1, "turn", no).due(-1, "sure", no);
+            }
+            x.due(0, "total", 7).due(0, "total", 6).due(0, "rank");
+        }
         Tried.laid(Tried.TRIANGLE).with("post", 60, 60).due(-1, "fence", 0, 3).due(-1, "degree", 3)
                 .due(-1, "end", 3, 0).due(-1, "of", 1).due(6, "lay").due(2, "fence", 0, 3).due(59, "of", 1);
     }
@@ -95,7 +96,7 @@ public final class FenceBoundaryTests {
             Tried.made().due(-2, "end", 0, what).due(-2, "end", -1, what);
         }
         Tried.made().due(-3, "end", 0, 0).due(-3, "end", 6, 1).due(-3, "end", -1, 0);
-        for (long no : noneOf(6)) {
+        for (long no : Tried.noneOf(6)) {
             x.due(-1, "end", no, 0).due(-1, "end", no, 1);
         }
         x.due(2, "end", 5, 0).due(3, "end", 5, 1).due(0, "total", 7);
@@ -105,11 +106,11 @@ public final class FenceBoundaryTests {
         Sentences.sentence("Terms 1", "a HEM: with no POSTS on both sides of its line");
         Tried.laid(Tried.LINE).due(1, "kind", 0).due(1, "kind", 1).due(2, "total", 3);
         Tried.laid(0, 0, 1, 1, 2, 2, 3, 3, 4, 4, 5, 5, 6, 6, 60, 60).due(7, "total", 3).due(1, "kind", 6);
-        Tried.laid(ROW_AND_TOP).due(4, "total", 3).due(0, "kind", 3);
+        Tried.laid(Tried.ROW_AND_TOP).due(4, "total", 3).due(0, "kind", 3);
         Tried.laid(Tried.TRIANGLE).due(3, "total", 3);
         Tried.laid(Tried.SQUARE).due(4, "total", 3).due(0, "kind", 1).due(0, "kind", 4);
-        Tried.laid(HAIR).due(4, "total", 3).due(0, "kind", 0).due(0, "kind", 5);
-        Tried.laid(HAIR_WITHIN).due(3, "total", 3).due(1, "kind", 0).due(0, "kind", 2).due(0, "kind", 4);
+        Tried.laid(Tried.HAIR).due(4, "total", 3).due(0, "kind", 0).due(0, "kind", 5);
+        Tried.laid(Tried.HAIR_WITHIN).due(3, "total", 3).due(1, "kind", 0).due(0, "kind", 2).due(0, "kind", 4);
         Tried.laid(0, 0, 60, 59, 0, 60, 59, 58).due(4, "total", 3).due(0, "kind", 0);
         Tried.laid(Tried.OCTAGON).due(8, "total", 3);
         Tried.laid(Tried.MOST).due(3, "total", 3);
@@ -118,8 +119,8 @@ public final class FenceBoundaryTests {
         kinds(Tried.laid(Tried.TRIANGLE), 2, 2, 2);
         kinds(Tried.laid(Tried.LINE), 1, 1);
         kinds(Tried.laid(Tried.SQUARE), 2, 0, 2, 2, 0, 2);
-        kinds(Tried.laid(ROW_AND_TOP), 2, 2, 2, 0, 2);
-        kinds(Tried.laid(HAIR_WITHIN), 1, 1, 0, 1, 0, 0);
+        kinds(Tried.laid(Tried.ROW_AND_TOP), 2, 2, 2, 0, 2);
+        kinds(Tried.laid(Tried.HAIR_WITHIN), 1, 1, 0, 1, 0, 0);
         kinds(Tried.laid(30, 0, 0, 60, 60, 60, 30, 20), 1, 1, 0, 1, 0, 0);
         kinds(Tried.laid(30, 0, 0, 60, 60, 60, 30, 60), 2, 2, 0, 2, 2);
         Sentences.sentence("Terms 1", "By THE CUTTING at hand");
@@ -145,7 +146,8 @@ public final class FenceBoundaryTests {
 
     private static void kind() {
         Sentences.sentence("Terms 1", "Told is the first that fits in the order HELD, BARRED, BARE, HEM.");
-        Tried x = Tried.laid(Tried.PENTAGON).with("tell", 0, 1).with("tell", 7, 1).with("tell", 2, 1).with("tell", 6, 2);
+        Tried x = Tried.laid(Tried.PENTAGON).with("tell", 0, 1).with("tell", 7, 1).with("tell", 2, 1)
+                .with("tell", 6, 2);
         kinds(x, 4, 0, 4, 2, 2, 0, 3, 4, 0, 2);
         x.with("turn", 1).due(3, "kind", 6).due(0, "kind", 1).with("tell", 5, 1).with("tell", 1, 2);
         kinds(x, 4, 3, 4, 2, 2, 4, 3, 4, 0, 2);
@@ -159,7 +161,7 @@ public final class FenceBoundaryTests {
         Sentences.sentence("Promise 12", "The KIND of a FENCE. STATE; UNKNOWN.");
         Tried.made().due(-3, "kind", 0).due(-3, "kind", -1).due(-3, "kind", 99);
         x = Tried.laid(Tried.OCTAGON).due(2, "kind", 0).due(0, "kind", 26).due(2, "kind", 27);
-        for (long no : noneOf(28)) {
+        for (long no : Tried.noneOf(28)) {
             x.due(-1, "kind", no);
         }
     }
@@ -189,7 +191,7 @@ public final class FenceBoundaryTests {
         }
         for (int kind = 0; kind <= 4; kind++) {
             Tried.made().due(-3, "weightAs", 0, kind).due(-3, "weightAs", 99, kind).due(0, "total", 7);
-            for (long no : noneOf(10)) {
+            for (long no : Tried.noneOf(10)) {
                 x.due(-1, "weightAs", no, kind);
             }
         }
@@ -213,11 +215,11 @@ public final class FenceBoundaryTests {
         crosses(x, 6, 7, 2, 4, 0);
         crosses(x, 6, 7, 3, 4, 1);
         crosses(x, 6, 7, 2, 5, 0);
-        x = Tried.laid(HAIR);
+        x = Tried.laid(Tried.HAIR);
         crosses(x, 0, 1, 2, 3, 1);
         crosses(x, 0, 2, 1, 3, 0);
         crosses(x, 0, 3, 1, 2, 0);
-        x = Tried.laid(HAIR_WITHIN);
+        x = Tried.laid(Tried.HAIR_WITHIN);
         crosses(x, 0, 1, 2, 3, 0);
         crosses(x, 0, 3, 1, 2, 0);
         x = Tried.laid(0, 0, 60, 60, 60, 0, 0, 60);
@@ -234,7 +236,7 @@ public final class FenceBoundaryTests {
             // of two fences the document speaks: one and the same is not told to cross itself
             x.due(0, "crosses", f, f);
         }
-        for (long no : noneOf(28)) {
+        for (long no : Tried.noneOf(28)) {
             x.due(-1, "crosses", no, 0).due(-1, "crosses", 27, no).due(-1, "crosses", no, no);
         }
     }
@@ -271,7 +273,7 @@ public final class FenceBoundaryTests {
         }
         for (int how = 0; how <= 2; how++) {
             Tried.made().due(-3, "tell", 0, how).due(-3, "tell", -1, how).due(-3, "tell", 99, how);
-            for (long no : noneOf(10)) {
+            for (long no : Tried.noneOf(10)) {
                 x.due(-1, "tell", no, how);
             }
         }
@@ -309,7 +311,7 @@ public final class FenceBoundaryTests {
     private static void cuttings() {
         Sentences.sentence("Terms 1", "A CUTTING is a set of FENCES, no two of which CROSS, to which none can be added");
         int[][] grounds = {Tried.TRIANGLE, Tried.LINE, Tried.SQUARE, Tried.KITE, Tried.PENTAGON, Tried.HEXAGON,
-            ROW_AND_TOP, HAIR, HAIR_WITHIN};
+            Tried.ROW_AND_TOP, Tried.HAIR, Tried.HAIR_WITHIN};
         int[] counts = {1, 1, 2, 3, 5, 14, 1, 2, 1};
         for (int i = 0; i < grounds.length; i++) {
             Tried x = Tried.laid(grounds[i]).due(counts[i], "count");
@@ -352,7 +354,8 @@ public final class FenceBoundaryTests {
         Tried x = Tried.laid(Tried.OCTAGON).due(0, "weigh", 27, 1000).due(1000, "weigh", 27, -1000);
         x.due(-1000, "weigh", 27, 999).due(999, "weigh", 27, -999).due(-999, "weightAs", 27, 0).due(0, "weigh", 0, 1);
         x.due(1, "weightAs", 0, 0).due(0, "weightAs", 1, 0).due(-999, "weigh", 27, 0).due(0, "weigh", 27, 0);
-        x.due(0, "weigh", 1, 5).due(-1, "weightAs", 28, 0).with("turn", 1).with("tell", 5, 1).with("go", 2).with("back");
+        x.due(0, "weigh", 1, 5).due(-1, "weightAs", 28, 0).with("turn", 1).with("tell", 5, 1).with("go", 2)
+                .with("back");
         x.due(5, "weightAs", 1, 0);
         Sentences.sentence("Promise 16", "BAD; STATE; UNKNOWN.");
         x = Tried.laid(Tried.SQUARE).with("weigh", 5, 7);
@@ -362,7 +365,7 @@ public final class FenceBoundaryTests {
         }
         for (int weight : new int[] {-1000, 0, 1000}) {
             Tried.made().due(-3, "weigh", 0, weight).due(-3, "weigh", 99, weight);
-            for (long no : noneOf(6)) {
+            for (long no : Tried.noneOf(6)) {
                 x.due(-1, "weigh", no, weight);
             }
         }

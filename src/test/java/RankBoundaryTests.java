@@ -2,12 +2,7 @@
 public final class RankBoundaryTests {
     private static final int MIN = Tried.MIN;
     private static final int MAX = Tried.MAX;
-    private static final int[] HAIR_WITHIN = {0, 0, 60, 59, 0, 60, 1, 1};
     private static final String[] OF_A_RANK = {"of", "go", "apart", "way", "crossings"};
-
-    private static long[] noneOf(int many) {
-        return new long[] {-1, many, many + 1, 256, 300, MIN, MIN + 1, MAX, -256, -many};
-    }
 
     /** Two cuttings without 03, 14 and 25, {02,04,24} and {13,15,35}, and no turn of either. */
     private static Tried partedHexagon() {
@@ -36,7 +31,7 @@ public final class RankBoundaryTests {
         Tried.collected(Tried.SQUARE).due(-3, "count").with("lay").due(2, "count");
         Tried.laid(Tried.LINE).due(1, "count");
         Tried.laid(Tried.TRIANGLE).due(1, "count");
-        Tried.laid(HAIR_WITHIN).due(1, "count");
+        Tried.laid(Tried.HAIR_WITHIN).due(1, "count");
         Tried.laid(Tried.OCTAGON).due(132, "count");
         Tried.laid(Tried.MOST).due(150, "count");
         Tried.laid(0, 0, 60, 0, 60, 60, 0, 60, 30, 5, 55, 30, 30, 55, 5, 30).due(30, "count");
@@ -58,7 +53,8 @@ public final class RankBoundaryTests {
         Tried.laid(Tried.SQUARE).due(47, "of", 0).due(61, "of", 1).due(-1, "of", 2);
         Tried.laid(Tried.HEXAGON).due(21055, "of", 0).due(31537, "of", 13).due(-1, "of", 14);
         Tried.laid(Tried.SQUARE).with("tell", 1, 1).due(47, "of", 0).due(-1, "of", 1);
-        Tried.laid(Tried.SQUARE).with("tell", 4, 2).due(47, "of", 0).due(-1, "of", 1).with("tell", 4, 0).due(61, "of", 1);
+        Tried.laid(Tried.SQUARE).with("tell", 4, 2).due(47, "of", 0).due(-1, "of", 1).with("tell", 4, 0)
+                .due(61, "of", 1);
         Sentences.sentence("Promise 28", "THE CUTTING becomes the one of a RANK: 1. STATE; UNKNOWN.");
         Tried.laid(Tried.LINE).due(1, "go", 0).due(3, "cutting").due(-1, "go", 1).due(1, "total", 6);
         Tried x = Tried.laid(Tried.MOST);
@@ -73,7 +69,7 @@ public final class RankBoundaryTests {
             int[] counts = {1, 2, 132, 150};
             for (int i = 0; i < grounds.length; i++) {
                 x = Tried.laid(grounds[i]);
-                for (long no : noneOf(counts[i])) {
+                for (long no : Tried.noneOf(counts[i])) {
                     x.due(-1, call, no);
                 }
                 x.due(0, "rank").due(0, "total", 6).due(0, "total", 7);
@@ -106,7 +102,7 @@ public final class RankBoundaryTests {
         sures(Tried.laid(Tried.PENTAGON).with("tell", 6, 2), 2, 1, 1, 2, 2, 1, 0, 2, 1, 2);
         sures(Tried.laid(Tried.PENTAGON).with("tell", 6, 2).with("tell", 5, 2), 2, 2, 1, 2, 2, 0, 0, 2, 1, 2);
         Tried x = Tried.laid(Tried.OCTAGON).due(2, "sure", 0).due(1, "sure", 26).due(2, "sure", 27);
-        for (long no : new long[] {-1, 28, 29, 31, 32, 33, 59, 64, 256, MIN, MAX, -32, -4}) {
+        for (long no : Tried.noneOf(28)) {
             x.due(-1, "sure", no);
         }
     }
@@ -122,7 +118,8 @@ public final class RankBoundaryTests {
         Sentences.sentence("Promise 30", "The least (greatest = false), the greatest sum of weights of the FENCES of a"
                 + " CUTTING that is ASKED. STATE.");
         Tried.made().due(-3, "best", 0).due(-3, "best", 1);
-        Tried.laid(Tried.LINE).due(0, "best", 0).due(0, "best", 1).with("weigh", 1, -5).due(-5, "best", 0).due(-5, "best", 1);
+        Tried.laid(Tried.LINE).due(0, "best", 0).due(0, "best", 1).with("weigh", 1, -5).due(-5, "best", 0)
+                .due(-5, "best", 1);
         Tried x = Tried.laid(Tried.MOST);
         for (int weight : new int[] {1000, -1000}) {
             for (int f = 0; f < 28; f++) {
@@ -150,8 +147,11 @@ public final class RankBoundaryTests {
     private static void apart() {
         Sentences.sentence("Promise 32", "How far THE CUTTING is APART from the one of a RANK; NONE: no TURNS lead there.");
         Tried.laid(Tried.LINE).due(0, "apart", 0);
-        Tried.laid(Tried.SQUARE).due(0, "apart", 0).due(1, "apart", 1).with("go", 1).due(1, "apart", 0).due(0, "apart", 1);
+        Tried.laid(Tried.SQUARE).due(0, "apart", 0).due(1, "apart", 1).with("go", 1).due(1, "apart", 0)
+                .due(0, "apart", 1);
         Tried.laid(Tried.SQUARE).with("tell", 1, 1).due(0, "apart", 0);
+        each(Tried.laid(Tried.HAIR), "apart", 0, 1);
+        each(Tried.laid(Tried.HAIR).with("go", 1), "apart", 1, 0);
         each(Tried.laid(Tried.PENTAGON), "apart", 0, 1, 2, 1, 2);
         each(Tried.laid(Tried.KITE), "apart", 0, 2, 1);
         each(partedHexagon(), "apart", 0, -9);
@@ -198,6 +198,8 @@ public final class RankBoundaryTests {
         Tried.laid(Tried.LINE).due(-9, "way", 0);
         Tried.laid(Tried.SQUARE).due(-9, "way", 0).due(1, "way", 1).with("go", 1).due(4, "way", 0).due(-9, "way", 1);
         Tried.laid(Tried.SQUARE).with("tell", 1, 1).due(-9, "way", 0);
+        each(Tried.laid(Tried.HAIR), "way", -9, 0);
+        each(Tried.laid(Tried.HAIR).with("go", 1), "way", 5, -9);
         each(Tried.laid(Tried.PENTAGON), "way", -9, 1, 1, 2, 2);
         each(Tried.laid(Tried.KITE), "way", -9, 5, 5);
         each(partedHexagon(), "way", -9, -9);
@@ -228,6 +230,7 @@ public final class RankBoundaryTests {
         Tried.collected(Tried.SQUARE).due(-3, "far").with("lay").due(1, "far").with("tell", 1, 1).due(0, "far");
         Tried.laid(Tried.LINE).due(0, "far");
         Tried.laid(Tried.TRIANGLE).due(0, "far");
+        Tried.laid(Tried.HAIR).due(1, "far").with("go", 1).due(1, "far");
         Tried.laid(Tried.KITE).due(2, "far").with("go", 1).due(2, "far").with("go", 2).due(1, "far");
         Tried.laid(Tried.PENTAGON).due(2, "far").with("tell", 8, 2).due(2, "far").with("turn", 1).due(1, "far");
         partedHexagon().due(0, "far").with("go", 1).due(0, "far");
@@ -240,6 +243,8 @@ public final class RankBoundaryTests {
         Tried.laid(Tried.LINE).due(0, "crossings", 0);
         Tried.laid(Tried.SQUARE).due(0, "crossings", 0).due(1, "crossings", 1).with("go", 1).due(1, "crossings", 0)
                 .due(0, "crossings", 1);
+        each(Tried.laid(Tried.HAIR), "crossings", 0, 1);
+        each(Tried.laid(Tried.HAIR).with("go", 1), "crossings", 1, 0);
         each(Tried.laid(Tried.PENTAGON), "crossings", 0, 1, 3, 1, 3);
         each(Tried.laid(Tried.KITE), "crossings", 0, 3, 1);
         each(partedHexagon(), "crossings", 0, 6);
@@ -253,7 +258,8 @@ public final class RankBoundaryTests {
         totals(Tried.made(), 0, 0, 0, 0, 0, 0, 0, 0, 0);
         Tried x = Tried.laid(Tried.KITE).with("post", 40, 40);
         totals(x, 6, 5, 10, 4, 0, 0, 0, 0, 0);
-        x.with("tell", 4, 1).with("tell", 0, 1).with("tell", 5, 1).with("tell", 1, 2).with("tell", 5, 0).with("turn", 5);
+        x.with("tell", 4, 1).with("tell", 0, 1).with("tell", 5, 1).with("tell", 1, 2).with("tell", 5, 0)
+                .with("turn", 5);
         totals(x, 6, 5, 10, 4, 2, 1, 1, 0, 0);
         x.with("sheet", 2, 0, 4).with("sheet", 3, 0, 0).with("tear", 7).with("put", 0, 0, 0).with("weightAs", 0, 3);
         totals(x, 6, 5, 10, 4, 2, 1, 1, 3, 2);

@@ -295,7 +295,8 @@ public final class SheetBoundaryTests {
         x.due(3, "clear").due(2, "take", 0, 1).due(2, "clear").due(2, "take", 0, 0).due(2, "total", 0);
         x.due(-3, "post", 1, 2).due(-3, "post", 3, 4);
         Tried.made().row(1, 0, 7).due(0, "take", 1, 0).due(0, "take", 1, 1).due(0, "total", 0);
-        Tried.made().row(1, 0, 7, 8).due(0, "take", 1, 1).due(0, "take", 1, 2).due(1, "take", 1, 0).due(-3, "post", 7, 8);
+        Tried.made().row(1, 0, 7, 8).due(0, "take", 1, 1).due(0, "take", 1, 2).due(1, "take", 1, 0)
+                .due(-3, "post", 7, 8);
         Tried.made().with("sheet", 1, 0, 0).due(0, "take", 1, 0).due(0, "total", 7);
         x = Tried.made().with("sheet", 3, 0, 20);
         for (int i = 0; i < 20; i++) {
@@ -383,6 +384,7 @@ public final class SheetBoundaryTests {
         }
         x.with("clear").posts(Tried.TRIANGLE).due(3, "lay").due(0, "best", 1).with("clear");
         x.posts(Tried.PENTAGON).with("lay").due(0, "best", 1).due(0, "best", 0).due(0, "weightAs", 9, 0);
+        layOverAnother();
         Sentences.sentence("Promise 9", "THE CUTTING is the first in ORDER: how many FENCES.");
         x = Tried.laid(Tried.PENTAGON).with("go", 4).due(10, "lay").due(671, "cutting").due(0, "rank");
         x.with("turn", 1).with("lay").due(671, "cutting");
@@ -390,6 +392,20 @@ public final class SheetBoundaryTests {
         Tried.collected(Tried.LINE).due(2, "lay").due(3, "cutting");
         Tried.collected(Tried.MOST).due(28, "lay").due(0, "rank");
         Tried.collected(0, 0, 1, 1, 2, 2, 3, 3, 4, 4, 5, 5, 6, 6, 60, 60).due(7, "lay").due(127, "cutting");
+    }
+
+    private static void layOverAnother() {
+        Sentences.sentence("Promise 9", "THE GROUND is laid of the POSTS that are collected");
+        int[][] befores = {Tried.OCTAGON, Tried.MOST, Tried.HEXAGON, Tried.KITE, Tried.SQUARE, Tried.LINE};
+        int[][] grounds = {Tried.HEXAGON, Tried.PENTAGON, Tried.KITE, Tried.SQUARE, Tried.TRIANGLE, Tried.LINE};
+        for (int[] before : befores) {
+            for (int[] ground : grounds) {
+                Tried x = Tried.laid(before).with("go", 1).with("tell", 0, 1).with("weigh", 2, 9).with("go", 0);
+                x.with("clear").posts(ground).with("lay");
+                String due = State.of(Tried.laid(ground), ground);
+                Sentences.same("a ground laid over another", State.of(x, ground), due);
+            }
+        }
     }
 
     public static void main(String[] args) {
