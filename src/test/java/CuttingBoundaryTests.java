@@ -1,4 +1,5 @@
 import java.util.ArrayDeque;
+import java.util.Arrays;
 import java.util.Deque;
 
 /** The boundary cases that the document's sentences name: the cutting at hand, turns, going back. */
@@ -52,6 +53,32 @@ public final class CuttingBoundaryTests {
         thirds(new int[] {1, 1, 0, 60, 60, 59, 0, 0}, 0, 1, 2, 0, 1, 3, 0, 2, 3);
         thirds(MIDDLE_LAST, 0, 1, 4, 0, 3, 4, 1, 2, 4, 2, 3, 4);
         thirds(new int[] {0, 0, 60, 1, 59, 1}, 0, 1, 2);
+        thirdsHaveTheirFences();
+    }
+
+    /** Eight posts of which two are parted by a third on their line, whatever their order. */
+    private static void thirdsHaveTheirFences() {
+        int[][] triples = {{0, 0, 60, 0, 60, 60, 30, 30}, {60, 0, 0, 0, 60, 60, 30, 30}, {0, 0, 60, 60, 60, 0, 30, 30},
+            {30, 30, 60, 0, 0, 0, 60, 60}};
+        for (int[] triple : triples) {
+            int[] places = Arrays.copyOf(triple, 16);
+            System.arraycopy(new int[] {0, 58, 10, 42, 5, 20, 20, 50}, 0, places, 8, 8);
+            long count = Tried.laid(places).due(27, "total", 2).ask("count");
+            for (int r = 0; r < count; r += 3) {
+                Tried x = Tried.laid(places).with("go", r).due(10, "thirds");
+                for (int i = 0; i < 10; i++) {
+                    thirdHasItsFences(x, i);
+                }
+            }
+        }
+    }
+
+    private static void thirdHasItsFences(Tried x, int i) {
+        long least = x.ask("third", i, 0);
+        long next = x.ask("third", i, 1);
+        long greatest = x.ask("third", i, 2);
+        x.due(1, "has", x.ask("fence", least, next)).due(1, "has", x.ask("fence", least, greatest));
+        x.due(1, "has", x.ask("fence", next, greatest));
     }
 
     private static void thirds(int[] places, int... corners) {
@@ -83,8 +110,7 @@ public final class CuttingBoundaryTests {
                 long place = least * 64 + next * 8 + greatest;
                 boolean isInOrder = least < next && next < greatest && place > last;
                 Sentences.due("third(" + i + ", 0 .. 2) is in order", isInOrder ? 1 : 0, 1);
-                x.due(1, "has", x.ask("fence", least, next)).due(1, "has", x.ask("fence", least, greatest));
-                x.due(1, "has", x.ask("fence", next, greatest));
+                thirdHasItsFences(x, i);
                 last = place;
             }
             for (int what = 0; what <= 2; what++) {

@@ -124,6 +124,7 @@ public final class FenceBoundaryTests {
         kinds(Tried.laid(30, 0, 0, 60, 60, 60, 30, 20), 1, 1, 0, 1, 0, 0);
         kinds(Tried.laid(30, 0, 0, 60, 60, 60, 30, 60), 2, 2, 0, 2, 2);
         Sentences.sentence("Terms 1", "By THE CUTTING at hand");
+        kindsOfTheGreatest();
         Tried x = Tried.laid(Tried.PENTAGON);
         kinds(x, 2, 0, 0, 2, 2, 0, 0, 1, 0, 2);
         kinds(x.with("turn", 1), 1, 0, 0, 2, 2, 0, 0, 2, 0, 2);
@@ -135,6 +136,28 @@ public final class FenceBoundaryTests {
         kinds(x, 1, 0, 1, 0, 2, 0, 0, 2, 0, 0);
         kinds(x.with("turn", 5), 1, 0, 1, 0, 1, 0, 0, 1, 0, 0);
         kinds(x.with("turn", 6), 2, 0, 1, 0, 2, 0, 0, 1, 0, 0);
+    }
+
+    /** The kinds of OCTAGON, whose hems are 01, 12, .. 67, 07, as its thirds make them. */
+    private static void kindsOfTheGreatest() {
+        for (int r = 0; r < 132; r += 7) {
+            Tried x = Tried.laid(Tried.OCTAGON).with("go", r);
+            int[] kinds = new int[28];
+            for (int i = 0; i < 6; i++) {
+                long[] corners = {x.ask("third", i, 0), x.ask("third", i, 1), x.ask("third", i, 2)};
+                long[] sides = {x.ask("fence", corners[0], corners[1]), x.ask("fence", corners[1], corners[2]),
+                    x.ask("fence", corners[0], corners[2])};
+                boolean[] isHem = {corners[1] - corners[0] == 1, corners[2] - corners[1] == 1,
+                    corners[2] - corners[0] == 7};
+                int hems = (isHem[0] ? 1 : 0) + (isHem[1] ? 1 : 0) + (isHem[2] ? 1 : 0);
+                for (int s = 0; s < 3; s++) {
+                    if (isHem[s]) {
+                        kinds[(int) sides[s]] = hems >= 2 ? 2 : 1;
+                    }
+                }
+            }
+            kinds(x, kinds);
+        }
     }
 
     private static void kinds(Tried x, int... kinds) {

@@ -401,6 +401,7 @@ public final class SheetBoundaryTests {
         for (int[] before : befores) {
             for (int[] ground : grounds) {
                 Tried x = Tried.laid(before).with("go", 1).with("tell", 0, 1).with("weigh", 2, 9).with("go", 0);
+                x.with("far").with("apart", 1).with("sure", 0).with("best", 1);
                 x.with("clear").posts(ground).with("lay");
                 String due = State.of(Tried.laid(ground), ground);
                 Sentences.same("a ground laid over another", State.of(x, ground), due);
