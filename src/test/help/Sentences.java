@@ -10,7 +10,6 @@ import java.nio.file.Path;
 final class Sentences {
     private static final Path DOCUMENT = Path.of("../shared/DOC.md");
 
-    private static String document;
     private static String sentence = "no sentence is named";
     private static int answersOfSentence = 1;
     private static int sentences;
@@ -67,28 +66,34 @@ final class Sentences {
         }
     }
 
-    /** A part is "What it is", "Promise 1" .. "Promise 36", or "Terms 1" .. "Terms 3". */
+    /** A part is headed by "## ", but for "Promise 1" .. "Promise 36" and "Terms 1" .. "Terms 3". */
     private static String textOf(String part) {
-        String text = read();
-        String head = "## " + part + " ";
-        if (part.startsWith("Promise ")) {
-            head = "## " + part + ":";
-        }
-        if (part.startsWith("Terms ")) {
-            head = "======== " + part.substring("Terms ".length()) + " ";
-        }
-        int from = text.indexOf(head);
-        return from < 0 ? "" : text.substring(from + head.length()).split("========|## ")[0];
+        String text = document();
+        int from = text.indexOf(headOf(part));
+        return from < 0 ? "" : text.substring(from + headOf(part).length()).split("========|## ")[0];
     }
 
-    private static String read() {
-        if (document == null) {
-            try {
-                document = Files.readString(DOCUMENT).replaceAll("\\s+", " ");
-            } catch (IOException e) {
-                throw new IllegalStateException(DOCUMENT + " cannot be read", e);
-            }
+    /** The words by which a part begins in the document. */
+    static String headOf(String part) {
+        if (part.startsWith("Promise ")) {
+            return "## " + part + ":";
         }
-        return document;
+        if (part.startsWith("Terms ")) {
+            return "======== " + part.substring("Terms ".length()) + " ";
+        }
+        return "## " + part + " ";
+    }
+
+    /** All of the document, its lines joined. */
+    static String document() {
+        return read(DOCUMENT).replaceAll("\\s+", " ");
+    }
+
+    static String read(Path file) {
+        try {
+            return Files.readString(file);
+        } catch (IOException e) {
+            throw new IllegalStateException(file + " cannot be read", e);
+        }
     }
 }

@@ -149,7 +149,8 @@ public final class CuttingBoundaryTests {
     }
 
     private static void whatIsFree() {
-        Sentences.sentence("Terms 2", "A TURN of a FENCE a, b that is in it, in two THIRDS with POSTS c, d");
+        Sentences.sentence("Terms 2", "A TURN of a FENCE a, b that is in it, in two THIRDS with POSTS c, d: FREE, if c and"
+                + " d are on unlike sides of its line,");
         turns(Tried.laid(Tried.LINE), -9, -9);
         turns(Tried.laid(Tried.TRIANGLE), -9, -9, -9);
         turns(Tried.laid(Tried.SQUARE), -9, 4, -9, -9, -9, -9);

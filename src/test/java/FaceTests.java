@@ -1,109 +1,107 @@
-import java.io.IOException;
 import java.lang.reflect.Field;
 import java.lang.reflect.Method;
 import java.lang.reflect.Modifier;
-import java.nio.file.Files;
 import java.nio.file.Path;
-import java.util.Arrays;
+import java.util.ArrayList;
+import java.util.List;
 import java.util.Set;
 import java.util.TreeSet;
 import java.util.regex.Matcher;
 import java.util.regex.Pattern;
 
-/** The face is the document's and no more, and the source keeps to what LANGUAGE.md leaves. */
+/** The face is the document's and no more, its calls under the headings that the document tells. */
 public final class FaceTests {
     private static final Path SOURCE = Path.of("src/main/java/FenceTurns.java");
-    private static final String[] METHODS = {
-        "int sheet(int,int,int)", "int tear(int)", "int put(int,int,long)", "long at(int,int,int)",
-        "int post(int,int)", "int take(int,int)", "int clear()", "int lay()", "int fence(int,int)",
-        "int end(int,int)", "int kind(int)", "int weightAs(int,int)", "int crosses(int,int)",
-        "int tell(int,int)", "int weigh(int,int)", "long cutting()", "int has(int)", "int thirds()",
-        "int third(int,int)", "int degree(int)", "int turns(int)", "int turn(int)", "int back()",
-        "int count()", "int rank()", "long of(int)", "int go(int)", "int sure(int)", "int best(boolean)",
-        "int bestRank(boolean)", "int apart(int)", "int way(int)", "int far()", "int crossings(int)",
-        "int total(int)"};
-    private static final String[] CONSTANTS = {
-        "UNKNOWN -1", "BAD -2", "STATE -3", "FULL -4", "NONE -9", "NULL -11", "PLACE -12", "CAST -13",
-        "SIZE -14"};
-    private static final Pattern LEFT_OUT = Pattern.compile("\\b(throw|throws|try|catch|synchronized|assert"
-            + "|import|package|null|instanceof|new Random|System|Thread|while|float|double)\\b|->|::");
+    private static final String FIRST_LINE = "public final class FenceTurns {";
 
-    private static int wrong;
+    private static String faceOfTheDocument() {
+        String text = Sentences.document();
+        int from = text.indexOf(FIRST_LINE) + FIRST_LINE.length();
+        return text.substring(from, text.indexOf("}", from));
+    }
 
-    private static void due(String what, Object got, Object want) {
-        if (!got.equals(want)) {
-            wrong++;
-            System.out.println(what + ": " + got + ", due is " + want);
+    /** The public lines of a text, without what ends them. */
+    private static List<String> publicLines(String text, String end) {
+        List<String> lines = new ArrayList<>();
+        Matcher line = Pattern.compile("\\bpublic (?!final class)[^;{]*?(?=" + end + ")").matcher(text);
+        while (line.find()) {
+            lines.add(line.group().strip());
         }
+        return lines;
     }
 
-    private static Set<String> setOf(String... texts) {
-        return new TreeSet<>(Arrays.asList(texts));
+    private static void declarations() {
+        Sentences.sentence("The public face", FIRST_LINE);
+        List<String> due = publicLines(faceOfTheDocument(), ";");
+        Sentences.due("lines of the document's face", due.size(), 38);
+        String source = Sentences.read(SOURCE);
+        Sentences.same("the class's public lines", publicLines(source, "[;{]").toString(), due.toString());
+        Sentences.same("the class is", Modifier.toString(FenceTurns.class.getModifiers()), "public final");
+        Sentences.due("classes in the source that are public", publicClasses(source), 1);
     }
 
-    private static String told(Method m) {
-        StringBuilder types = new StringBuilder();
-        for (Class<?> type : m.getParameterTypes()) {
-            types.append(types.length() == 0 ? "" : ",").append(type);
-        }
-        return m.getReturnType() + " " + m.getName() + "(" + types + ")";
+    private static int publicClasses(String source) {
+        return source.split("\\bpublic (final |abstract )?(class|interface|enum|record)\\b", -1).length - 1;
     }
 
-    private static void face() throws IllegalAccessException {
+    private static void nothingElseIsSeen() {
+        Sentences.sentence("The public face", FIRST_LINE);
         Class<?> c = FenceTurns.class;
-        due("the class", Modifier.toString(c.getModifiers()), "public final");
-        due("constructors", c.getDeclaredConstructors().length, 1);
-        due("the constructor's parameters", c.getConstructors()[0].getParameterCount(), 0);
+        Sentences.due("constructors", c.getDeclaredConstructors().length, 1);
         Set<String> methods = new TreeSet<>();
-        Set<String> publicNames = new TreeSet<>();
-        Set<String> privateNames = new TreeSet<>();
         for (Method m : c.getDeclaredMethods()) {
-            if (Modifier.isPrivate(m.getModifiers())) {
-                privateNames.add(m.getName());
-            } else {
-                due(m + " is", Modifier.toString(m.getModifiers()), "public");
-                methods.add(told(m));
-                publicNames.add(m.getName());
+            if (!Modifier.isPrivate(m.getModifiers())) {
+                Sentences.same(m + " is", Modifier.toString(m.getModifiers()), "public");
+                methods.add(m.getName());
             }
         }
-        due("methods", methods, setOf(METHODS));
-        privateNames.retainAll(publicNames);
-        due("private names that are public ones", privateNames, setOf());
-        Set<String> constants = new TreeSet<>();
+        Sentences.due("calls", methods.size(), 35);
+        int constants = 0;
         for (Field f : c.getDeclaredFields()) {
-            boolean isStatic = Modifier.isStatic(f.getModifiers());
-            due(f + " is final, if static", !isStatic || Modifier.isFinal(f.getModifiers()), true);
             if (!Modifier.isPrivate(f.getModifiers())) {
-                due(f + " is", Modifier.toString(f.getModifiers()), "public static final");
-                constants.add(f.getName() + " " + f.getInt(null));
+                Sentences.same(f + " is", Modifier.toString(f.getModifiers()), "public static final");
+                constants++;
             }
         }
-        due("constants", constants, setOf(CONSTANTS));
+        Sentences.due("constants", constants, 9);
         for (Class<?> inside : c.getDeclaredClasses()) {
-            due(inside + " is static", Modifier.isStatic(inside.getModifiers()), true);
-            due(inside + " is public", Modifier.isPublic(inside.getModifiers()), false);
+            int modifiers = inside.getModifiers();
+            boolean isSeen = Modifier.isPublic(modifiers) || Modifier.isProtected(modifiers);
+            Sentences.due(inside + " is seen from outside", isSeen ? 1 : 0, 0);
         }
     }
 
-    private static void source() throws IOException {
-        int number = 0;
-        for (String line : Files.readString(SOURCE).split("\n")) {
-            number++;
-            String code = line.strip();
-            boolean isComment = code.startsWith("/*") || code.startsWith("*") || code.startsWith("//");
-            Matcher found = LEFT_OUT.matcher(code);
-            if (!isComment && found.find()) {
-                due("line " + number + " of the source has", found.group(), "");
-            }
+    private static void headings() {
+        Pattern ahead = Pattern.compile("Ahead of the calls ([^.]*) the interface says: (---- [^.]*)\\.");
+        Matcher said = ahead.matcher(Sentences.document());
+        String source = Sentences.read(SOURCE);
+        int headings = 0;
+        while (said.find()) {
+            headings++;
+            Sentences.sentence("Terms 3", said.group());
+            Sentences.same("the calls under " + said.group(2), callsUnder(said.group(2), source),
+                    said.group(1).replace("`", ""));
         }
+        Sentences.due("headings", headings, 4);
     }
 
-    public static void main(String[] args) throws IOException, IllegalAccessException {
-        face();
-        source();
-        System.out.println(wrong == 0 ? "the face is as due" : wrong + " things are not as due");
-        if (wrong != 0) {
-            System.exit(1);
+    private static String callsUnder(String heading, String source) {
+        int from = source.indexOf("// " + heading + "\n");
+        if (from < 0) {
+            return "there is no such heading";
         }
+        int to = source.indexOf("// ----", from + 1);
+        List<String> names = new ArrayList<>();
+        for (String line : publicLines(source.substring(from, to < 0 ? source.length() : to), "[{]")) {
+            names.add(line.replaceAll("\\(.*", "").replaceAll(".* ", ""));
+        }
+        return String.join(", ", names);
+    }
+
+    public static void main(String[] args) {
+        declarations();
+        nothingElseIsSeen();
+        headings();
+        Sentences.end();
     }
 }

@@ -178,7 +178,7 @@ public final class FenceBoundaryTests {
         kinds(x, 1, 3, 4, 2, 2, 0, 0, 2, 0, 2);
         x.with("lay");
         kinds(x, 2, 0, 0, 2, 2, 0, 0, 1, 0, 2);
-        Sentences.sentence("Terms 1", "4 HELD, 3 BARRED, as told");
+        Sentences.sentence("Terms 1", "KINDS of FENCES: 4 HELD, 3 BARRED, as told");
         Tried.laid(Tried.SQUARE).with("tell", 1, 1).due(4, "kind", 1).with("tell", 4, 2).due(3, "kind", 4)
                 .with("tell", 1, 0).due(0, "kind", 1).with("tell", 4, 0).due(0, "kind", 4);
         Sentences.sentence("Promise 12", "The KIND of a FENCE. STATE; UNKNOWN.");
@@ -190,7 +190,8 @@ public final class FenceBoundaryTests {
     }
 
     private static void weightAs() {
-        Sentences.sentence("Promise 13", "(0: any; 1: HEM, BARE; 2, 3, 4: just these)");
+        Sentences.sentence("Promise 13", "A FENCE taken as one of a KIND (0: any; 1: HEM, BARE; 2, 3, 4: just these): its"
+                + " weight.");
         Tried x = Tried.laid(Tried.PENTAGON);
         for (int f = 0; f < 10; f++) {
             x.with("weigh", f, 100 + f);

@@ -88,6 +88,32 @@ public final class RankBoundaryTests {
         }
     }
 
+    private static void refusedRanks() {
+        Sentences.sentence("Promise 32", "STATE; UNKNOWN.");
+        refusedRanks("apart");
+        Sentences.sentence("Promise 33", "STATE; UNKNOWN.");
+        refusedRanks("way");
+        Sentences.sentence("Promise 35", "STATE; UNKNOWN.");
+        refusedRanks("crossings");
+    }
+
+    /** Ranks are those of the cuttings that are asked at the time. */
+    private static void refusedRanks(String call) {
+        for (long rank : new long[] {0, 1, -1, 150, MIN, MAX}) {
+            Tried.made().due(-3, call, rank);
+            Tried.collected(Tried.SQUARE).due(-3, call, rank);
+        }
+        Tried x = Tried.laid(Tried.PENTAGON);
+        for (long no : Tried.noneOf(5)) {
+            x.due(-1, call, no);
+        }
+        x.with("tell", 8, 2).due(-1, call, 3).with("tell", 6, 2).due(-1, call, 2);
+        Sentences.due(call + " of the last of two ranks is refused", x.ask(call, 1) == -1 ? 1 : 0, 0);
+        x.with("tell", 6, 0).with("tell", 8, 0).due(-1, call, 5);
+        Sentences.due(call + " of the last of five ranks is refused", x.ask(call, 4) == -1 ? 1 : 0, 0);
+        x.due(671, "cutting").due(0, "total", 6).due(0, "total", 7);
+    }
+
     private static void sure() {
         Sentences.sentence("Promise 29", "Whether a FENCE is in all that are ASKED 2, in some 1, in none 0. STATE;"
                 + " UNKNOWN.");
@@ -291,6 +317,7 @@ public final class RankBoundaryTests {
     public static void main(String[] args) {
         count();
         ranks();
+        refusedRanks();
         sure();
         best();
         apart();

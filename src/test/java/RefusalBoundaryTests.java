@@ -203,6 +203,7 @@ public final class RefusalBoundaryTests {
         Sentences.due("UNKNOWN", FenceTurns.UNKNOWN, -1);
         Sentences.due("BAD", FenceTurns.BAD, -2);
         Sentences.due("STATE", FenceTurns.STATE, -3);
+        Sentences.sentence("Terms 3", ", FULL -4.");
         Sentences.due("FULL", FenceTurns.FULL, -4);
         Sentences.sentence("Terms 3", "NONE is -9.");
         Sentences.due("NONE", FenceTurns.NONE, -9);

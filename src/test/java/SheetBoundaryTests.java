@@ -8,7 +8,7 @@ public final class SheetBoundaryTests {
     private static final int[] NO_LANES = {-1, 4, 5, MIN, MAX};
 
     private static void theUse() {
-        Sentences.sentence("What it is", "An object is used for at most 512 calls after it has been made");
+        Sentences.sentence("What it is", "An object is used for at most 512 calls after it has been made;");
         Tried x = Tried.made();
         for (int i = 0; i < 511; i++) {
             x.with("tear", 4);
@@ -409,6 +409,36 @@ public final class SheetBoundaryTests {
         }
     }
 
+    private static void theGround() {
+        Sentences.sentence("Terms 1", "THE GROUND (none at first) is laid of POSTS, numbered as they were collected.");
+        Tried.made().due(-3, "thirds").due(0, "total", 1).due(1, "tear", 0).due(-3, "thirds");
+        Tried.collected(Tried.MOST).due(-3, "fence", 0, 1).due(0, "total", 1).due(0, "total", 2);
+        Tried.laid(0, 0, 60, 0, 30, 0).due(-9, "fence", 0, 1).due(0, "fence", 0, 2).due(1, "fence", 1, 2);
+        Tried.laid(0, 0, 30, 0, 60, 0).due(0, "fence", 0, 1).due(-9, "fence", 0, 2).due(1, "fence", 1, 2);
+        Tried.laid(30, 0, 60, 0, 0, 0).due(0, "fence", 0, 1).due(1, "fence", 0, 2).due(-9, "fence", 1, 2);
+        // no number is lost to what was cleared or refused, nor to the way that a post came
+        Tried x = Tried.made().posts(9, 9, 8, 8).with("clear").posts(0, 0, 0, 0, 61, 0).row(0, 0, 60, 0, 60, 0, 5, 5);
+        x.due(1, "take", 0, 0).due(2, "total", 0).due(3, "post", 30, 0).due(2, "lay");
+        x.due(-9, "fence", 0, 1).due(0, "fence", 0, 2).due(1, "fence", 1, 2).due(-1, "degree", 3);
+        for (int first = 0; first < 8; first++) {
+            theGreatestFrom(first);
+        }
+    }
+
+    /** The outermost posts of MOST are 0, 1 and 3: laid from another post on, they have other numbers. */
+    private static void theGreatestFrom(int first) {
+        int[] places = new int[16];
+        for (int i = 0; i < 16; i++) {
+            places[i] = Tried.MOST[(2 * first + i) % 16];
+        }
+        Tried x = Tried.laid(places).due(150, "count");
+        int[] outermost = {(8 - first) % 8, (9 - first) % 8, (11 - first) % 8};
+        for (int i = 0; i < 3; i++) {
+            x.due(1, "kind", x.ask("fence", outermost[i], outermost[(i + 1) % 3]));
+        }
+        x.due(3, "total", 3);
+    }
+
     public static void main(String[] args) {
         theUse();
         aNewObject();
@@ -425,6 +455,7 @@ public final class SheetBoundaryTests {
         take();
         clear();
         lay();
+        theGround();
         Sentences.end();
     }
 }
